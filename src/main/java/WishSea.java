@@ -329,11 +329,11 @@ public final class WishSea {
         if (k < 0 || k > MOST_RUNGS) {
             return NONE;
         }
-        return climbed().count(k);
+        return theRungs().climb(live, now).count(k);
     }
 
     public int fewest(int things, int what) {
-        Rungs all = climbed();
+        Rungs all = theRungs().climb(live, now);
         int found = all.fewestWith(things);
         if (found < 0) {
             return NONE;
@@ -354,7 +354,7 @@ public final class WishSea {
         if (n < 0 || n > MOST_RUNGS) {
             return NONE;
         }
-        Rungs all = climbed();
+        Rungs all = theRungs().climb(live, now);
         int found = all.mostBy(n);
         if (found < 0) {
             return NONE;
@@ -374,7 +374,7 @@ public final class WishSea {
     }
 
     public int ends(int what) {
-        Rungs all = climbed();
+        Rungs all = theRungs().climb(live, now);
         int found = all.fewestContent();
         if (found < 0) {
             return NONE;
@@ -634,11 +634,11 @@ public final class WishSea {
         return 0;
     }
 
-    private Rungs climbed() {
+    /** Made at their first use, as their table is large and not every object is asked for it. */
+    private Rungs theRungs() {
         if (rungs == null) {
             rungs = new Rungs(live);
         }
-        rungs.climb(live, now);
         return rungs;
     }
 
@@ -760,6 +760,25 @@ public final class WishSea {
             bears = 100;
             calm = 0;
             statements = 0;
+        }
+
+        void beginCode(int which) {
+            if (which >= 0 && which < codeFrom.length) {
+                codeFrom[which] = codeLength;
+            }
+        }
+
+        void endCode(int which) {
+            if (which >= 0 && which < codeTo.length) {
+                codeTo[which] = codeLength;
+            }
+        }
+
+        void write(int element) {
+            if (codeLength < code.length) {
+                code[codeLength] = element;
+                codeLength++;
+            }
         }
 
         boolean tells(int which) {
@@ -1034,7 +1053,7 @@ public final class WishSea {
                     readWish();
                     break;
                 case FIRST:
-                    told.first |= askedThing(told.first);
+                    told.first |= bitOf(askedThing(told.first));
                     break;
                 case BEARS:
                     told.bears = numberFrom(1, MOST_BEARS);
@@ -1043,7 +1062,13 @@ public final class WishSea {
                     told.calm = numberFrom(0, MOST_BEARS);
                     break;
                 default:
-                    readCode(codeOf(kind));
+                    told.beginCode(codeOf(kind));
+                    if (kind == CONTENT) {
+                        readTest();
+                    } else {
+                        readSum();
+                    }
+                    told.endCode(codeOf(kind));
                     break;
             }
             told.statements++;
@@ -1107,13 +1132,13 @@ public final class WishSea {
             }
             if (token == USES) {
                 step();
-                uses = thingRow(given);
+                uses = thingRow(bitOf(given));
             }
             int wish = told.wishes;
             if (fault == 0 && wish < MOST_WISHES) {
                 told.wishNames[wish] = name;
                 told.words[wish] = words;
-                told.gives[wish] = Integer.numberOfTrailingZeros(given);
+                told.gives[wish] = given;
                 told.needs[wish] = needs;
                 told.uses[wish] = uses;
                 told.wishes++;
@@ -1121,27 +1146,30 @@ public final class WishSea {
         }
 
         private int thingRow(int barred) {
-            int bits = askedThing(barred);
+            int bits = bitOf(askedThing(barred));
             for (int i = 0; i < MOST_THINGS && token == NAME; i++) {
-                bits |= askedThing(bits | barred);
+                bits |= bitOf(askedThing(bits | barred));
             }
             return bits;
         }
 
-        /** The bit of the THING that is named here, 0 with a FAULT. */
+        /** The THING that is named here, NONE with a FAULT. */
         private int askedThing(int barred) {
             if (token != NAME) {
                 blame(1, start);
-                return 0;
+                return NONE;
             }
             int thing = indexOf(value, told.thingNames, told.things);
-            int bit = thing < 0 ? 0 : 1 << thing;
-            if (bit == 0 || (bit & barred) != 0) {
+            if (thing < 0 || (barred >> thing & 1) == 1) {
                 blame(3, start);
-                return 0;
+                return NONE;
             }
             step();
-            return bit;
+            return thing;
+        }
+
+        private static int bitOf(int thing) {
+            return thing < 0 ? 0 : 1 << thing;
         }
 
         private int newName() {
@@ -1176,19 +1204,6 @@ public final class WishSea {
             return number;
         }
 
-        private void readCode(int which) {
-            if (which < 0 || which >= told.codeFrom.length) {
-                return;
-            }
-            told.codeFrom[which] = told.codeLength;
-            if (which == CONTENT_TEST) {
-                readTest();
-            } else {
-                readSum();
-            }
-            told.codeTo[which] = told.codeLength;
-        }
-
         // The loops below end with the text: each round takes a token of it.
 
         private void readTest() {
@@ -1196,7 +1211,7 @@ public final class WishSea {
             for (int i = 0; i < length && token == OR; i++) {
                 step();
                 readBoth();
-                write(-OR);
+                told.write(-OR);
             }
         }
 
@@ -1205,7 +1220,7 @@ public final class WishSea {
             for (int i = 0; i < length && token == AND; i++) {
                 step();
                 readFact();
-                write(-AND);
+                told.write(-AND);
             }
         }
 
@@ -1214,14 +1229,14 @@ public final class WishSea {
                 open();
                 readFact();
                 opened--;
-                write(-NOT);
+                told.write(-NOT);
             } else if (token == '[') {
                 open();
                 readTest();
                 opened--;
                 pass(']');
             } else if (token == ALL) {
-                write(-ALL);
+                told.write(-ALL);
                 step();
             } else {
                 readSum();
@@ -1232,7 +1247,7 @@ public final class WishSea {
                 }
                 step();
                 readSum();
-                write(-sign);
+                told.write(-sign);
             }
         }
 
@@ -1242,7 +1257,7 @@ public final class WishSea {
                 int sign = token;
                 step();
                 readProduct();
-                write(-sign);
+                told.write(-sign);
             }
         }
 
@@ -1252,17 +1267,17 @@ public final class WishSea {
                 int sign = token;
                 step();
                 readPart();
-                write(-sign);
+                told.write(-sign);
             }
         }
 
         private void readPart() {
             int part = token;
             if (part == NUMBER) {
-                write(value);
+                told.write(value);
                 step();
             } else if (Shore.isPart(part)) {
-                write(-part);
+                told.write(-part);
                 step();
             } else if (part == '(') {
                 open();
@@ -1288,7 +1303,7 @@ public final class WishSea {
             readSum();
             opened--;
             pass(')');
-            write(-which);
+            told.write(-which);
         }
 
         /** Behind a FAULT the token is BROKEN, with which nothing goes on: so the reading never gets deeper than this. */
@@ -1298,13 +1313,6 @@ public final class WishSea {
             }
             opened++;
             step();
-        }
-
-        private void write(int element) {
-            if (told.codeLength < told.code.length) {
-                told.code[told.codeLength] = element;
-                told.codeLength++;
-            }
         }
 
         private void pass(int due) {
@@ -1515,15 +1523,15 @@ public final class WishSea {
             stands = false;
         }
 
-        void climb(Shore newShore, Moment now) {
+        Rungs climb(Shore newShore, Moment now) {
             if (stands && from.isLike(now)) {
-                return;
+                return this;
             }
             shore = newShore;
             from.take(now);
             stands = true;
             sets = 1 << shore.things;
-            Arrays.fill(table, EMPTY);
+            Arrays.fill(table, 0, (MOST_RUNGS + 1) * sets, EMPTY);
             if (now.things >= 0 && now.things < sets) {
                 table[now.things] = now.sea << 14;
             }
@@ -1532,6 +1540,7 @@ public final class WishSea {
                     spread(place);
                 }
             }
+            return this;
         }
 
         private void stand(int place) {
@@ -1701,7 +1710,7 @@ public final class WishSea {
 
         private int seaBehind(int own, int sea, int said, int wish) {
             here.put(own, sea, said, 0);
-            return shore.seaBehind(here, wish);
+            return sea + shore.darkOf(here, wish);
         }
 
         /** For the one whose turn it is; what he says is left in chosen. There are four turns at most, so four levels. */
@@ -1717,10 +1726,7 @@ public final class WishSea {
                 if ((may >> wish & 1) == 0) {
                     continue;
                 }
-                int newSea = seaBehind(own, sea, said, wish);
-                // One too many: both are as at first, so neither is ahead.
-                int margin = newSea > shore.bears ? 0
-                        : -bestMargin(turn + 1, other, shore.thingsBehind(own, wish), newSea, said + 1);
+                int margin = marginBy(wish, turn, own, other, sea, said);
                 if (margin > best) {
                     best = margin;
                     bestWish = wish;
@@ -1729,6 +1735,15 @@ public final class WishSea {
             int without = -bestMargin(turn + 1, other, own, sea, said);
             chosen[turn] = without > best ? NOTHING_SAID : bestWish;
             return Math.max(best, without);
+        }
+
+        private int marginBy(int wish, int turn, int own, int other, int sea, int said) {
+            int newSea = seaBehind(own, sea, said, wish);
+            if (newSea > shore.bears) {
+                // It is over, and both are as at first: neither is ahead.
+                return 0;
+            }
+            return -bestMargin(turn + 1, other, shore.thingsBehind(own, wish), newSea, said + 1);
         }
     }
 }
