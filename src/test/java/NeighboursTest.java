@@ -46,6 +46,12 @@ public final class NeighboursTest {
         rivals("over", x, 4, 0, 0, 0, 20, 20);
         WishSea y = Checks.with("thing a worth 5 rhymes 1;thing c worth 9 rhymes 1;wish wa words 0 gives a;wish wc words 9 gives c;"
                 + "dark words*10+5;bears 50;");
+        // As dark as the fish just bears is not too much: it goes on.
+        WishSea z = Checks.with("thing a worth 5 rhymes 1;thing b worth 1 rhymes 1;wish wb words 0 gives b uses a;wish wa words 0 gives a;"
+                + "dark 40;bears 40;");
+        rivals("just so much", z, 2, 0, 1, 1);
+        WishSea w = Checks.with("thing a worth 5 rhymes 1;wish wa words 0 gives a;dark 20;bears 40;");
+        rivals("just so much for both", w, 4, 0, 0, 0, 20, 20);
         // Whoever says wc (95) makes it one too many.
         rivals("one", y, 1, 5, 0);
         rivals("two", y, 2, 0, 0, 0);

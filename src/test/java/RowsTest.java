@@ -182,6 +182,16 @@ public final class RowsTest {
         Checks.on(x, ImageTest.bytes(3, 0, 0, 4));
         ladder(x, 1, 1, 1, 1);
         fewest(x, 5, 2, 60, 5, 1, 0);
+        Checks.on(x, ImageTest.bytes(3, 0, 0, 1));
+        ladder(x, 1, 2, 1);
+        Checks.on(x, ImageTest.bytes(3, 2, 0, 1));
+        ladder(x, 1, 2);
+        Checks.on(x, ImageTest.bytes(3, 2, 61, 1));
+        ladder(x, 1);
+        Checks.on(x, ImageTest.bytes(4, 2, 60, 1));
+        fewest(x, 4, 1, 90, 5, 2);
+        Checks.on(x, ImageTest.bytes(0, 0, 0, 0));
+        ladder(x, 1, 2, 2, 2);
         Checks.shore(x, TEXT + "bears 30;");
         ladder(x, 1, 2);
     }
@@ -214,5 +224,8 @@ public final class RowsTest {
         most(x, 8, 8, 8, 8, 255);
         most(x, 3, 3, 3, 3, 7);
         ends(x);
+        WishSea y = Checks.with(text + "dark 1;content had=8 and not worth=9;");
+        ends(y, 8, 8, 255);
+        ends(Checks.with(text + "content had=9;"));
     }
 }

@@ -60,6 +60,11 @@ public final class StateTest {
         C.due("not of the next FACT alone", content("not 1=2 and 1=2"), 0);
         C.due("not of all in edges", content("not [1=2 and 1=2]"), 1);
         C.due("not not", content("not not 1=1"), 1);
+        C.due("not what is so", content("not 1=1"), 0);
+        C.due("not what is not so", content("not 1=2"), 1);
+        C.due("not of edges", content("not [1=1 or 1=2]"), 0);
+        C.due("not not not", content("1=1 and not not not 1=1"), 0);
+        C.due("not behind or", content("1=2 or not 2=2"), 0);
         C.due("or of both", content("1=1 or 1=1"), 1);
         C.due("and of both", content("1=1 and 1=1"), 1);
         C.due("not all", content("all"), 0);

@@ -59,6 +59,11 @@ public final class StopTest {
         C.due("20 rows", Checks.falls(x, new int[60]), 20);
         bears("20 rows", x, 999, 1, 999);
         C.due("the tape is gone", x.end(1), false);
+        // What was cut off the tape is told by none.
+        x.feed(0x00280003, 0xe7000000, 0x05010000, 0x07010000, 0x07010000);
+        x.end(3);
+        C.due("one row", x.falls(), 1);
+        bears("one row", x, 960, 40, 999);
     }
 
     private static void values(String when, WishSea x, long... want) {

@@ -15,6 +15,7 @@ public final class TextTest {
         tooMany();
         refusedTextLeavesAll();
         letters();
+        oneTextBehindTheOther();
         C.end();
     }
 
@@ -26,6 +27,9 @@ public final class TextTest {
         }
         C.due("new fault 0", x.fault(0), 0);
         C.due("new fault 1", x.fault(1), -1);
+        C.due("new went", x.went(0), -1);
+        C.due("new value", x.value(0), -1);
+        C.due("new octet", x.octet(0), -1);
         C.due("fault 2", x.fault(2), -1);
         C.due("fault -1", x.fault(-1), -1);
         C.due("empty shore", x.shore(), 0);
@@ -245,6 +249,33 @@ public final class TextTest {
         x.night();
         C.due("again", Checks.shore(x, "calm 3;"), 1);
         C.due("DAY 0", x.has(6), 0);
+    }
+
+    /** What was read or worked out for one text is of no account for the next. */
+    private static void oneTextBehindTheOther() {
+        WishSea x = new WishSea();
+        String text = A + "wish w words 1 gives a;dark 1" + "+1-1".repeat(380) + ";";
+        for (int i = 0; i < 6; i++) {
+            C.due("long text", Checks.shore(x, text), 3);
+            C.due("long sum", x.wish(0, 6), 1);
+            C.due("spoilt behind it", Checks.shore(x, text + "dark"), -1);
+        }
+        C.due("other text", Checks.shore(x, A + "wish w words 1 gives a;bears 5;"), 3);
+        C.due("no dark", x.wish(0, 6), 0);
+        C.due("ladder", x.ladder(1), 1);
+        C.due("rivals", x.rivals(1, -1), 1);
+        C.due("content", Checks.shore(x, "thing b worth 8 rhymes 1 brief;wish w words 1 gives b;room 0;calm 9;content day=9;"), 5);
+        C.due("ladder by the new text", x.ladder(1), 0);
+        C.due("rivals by the new text", x.rivals(1, -1), 0);
+        C.due("said by the new text", x.rivals(1, 0), 20);
+        C.due("bears of the new text", x.has(9), 100);
+        C.due("last text", Checks.shore(x, "thing b worth 8 rhymes 1;wish w words 1 gives b;"), 2);
+        C.due("no room", x.has(7), 99);
+        C.due("no calm", x.has(10), 0);
+        C.due("no content", x.has(8), 0);
+        C.due("not brief", x.thing(0, 2), 0);
+        C.due("ladder", x.ladder(1), 1);
+        C.due("rivals", x.rivals(1, -1), 8);
     }
 
     private static void letters() {
