@@ -124,6 +124,9 @@ public final class ActsTest {
         C.due("up to it", x.days(39) >= 0, true);
         C.due("DAY", x.has(6), 9999);
         C.due("beyond", x.days(1), -1);
+        C.due("image", Checks.on(x, ImageTest.bytes(9998, 0, 0, 0)), true);
+        C.due("one DAY", x.days(1) >= 0, true);
+        C.due("DAY", x.has(6), 9999);
         WishSea y = Checks.with("");
         C.due("days 40", y.days(40), 0);
         C.due("DAY 40", y.has(6), 40);

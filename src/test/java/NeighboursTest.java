@@ -49,6 +49,7 @@ public final class NeighboursTest {
         // As dark as the fish just bears is not too much: it goes on.
         WishSea z = Checks.with("thing a worth 5 rhymes 1;thing b worth 1 rhymes 1;wish wb words 0 gives b uses a;wish wa words 0 gives a;"
                 + "dark 40;bears 40;");
+        rivals("just so much", z, 1, 5, 1);
         rivals("just so much", z, 2, 0, 1, 1);
         WishSea w = Checks.with("thing a worth 5 rhymes 1;wish wa words 0 gives a;dark 20;bears 40;");
         rivals("just so much for both", w, 4, 0, 0, 0, 20, 20);
@@ -66,6 +67,15 @@ public final class NeighboursTest {
         // ROOM by the sea of both: behind the first WISH none is short enough.
         WishSea y = Checks.with("thing a worth 5 rhymes 1;wish wa words 0 gives a;dark 30;room 1-sea;");
         rivals("room", y, 4, 5, 0, 20, 20, 20);
+        // Said counts both for ROOM: the third WISH is too long.
+        WishSea v = Checks.with("thing a worth 5 rhymes 1;thing b worth 3 rhymes 1;wish wa words 0 gives a;wish wb words 0 gives b;"
+                + "room 2-said-day;");
+        rivals("said", v, 1, 5, 0);
+        rivals("said", v, 3, 0, 0, 0, 20);
+        v.night();
+        C.due("DAY 1 has less room", v.has(7), 1);
+        Checks.shore(v, "thing a worth 5 rhymes 1;wish wa words 0 gives a;content day=1;");
+        rivals("DAY 0", v, 1, 5, 0);
         // CONTENT by his own THINGS.
         WishSea z = Checks.with("thing a worth 5 rhymes 1;thing b worth 5 rhymes 1;wish wa words 0 gives a;wish wb words 0 gives b;"
                 + "content worth>0;");

@@ -119,6 +119,10 @@ public final class StopTest {
         // Behind the eleventh WISH the sea is 1089: none of BEARS stands that, and at first one has nothing.
         values("12", y, 0, 901, 0, 703 * 2, 0, 505 * 2, 0, 307 * 2, 0, 109 * 2, 0, 0, 0);
         C.due("13", Checks.stop(y, 0, 1, 2, 3, 2, 3, 2, 3, 2, 3, 2, 3, 2), -1);
+        WishSea u = Checks.with("thing a worth 1 rhymes 1;thing b worth 1 rhymes 1;thing c worth 1 rhymes 1;"
+                + "wish wa words 9 gives a;wish wb words 1 gives b;wish wc words 4 gives c;dark words*10;");
+        C.due("each WISH as dark as it is", Checks.stop(u, 2, 0, 1), 3);
+        values("each", u, 0, 960, 870 * 2, 860 * 3);
         WishSea z = Checks.with(TEXT + "content said=1;");
         C.due("content then", Checks.stop(z, 0, 1), -1);
         C.due("content then", Checks.stop(z, 0), 1);

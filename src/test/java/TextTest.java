@@ -183,6 +183,7 @@ public final class TextTest {
         C.fine("dark (((((((1)))))))+(((((((2)))))));", 1);
         C.fault("dark ((((((((1))))))));", 5, 12);
         C.fine("dark ((((((min(1,2)))))));", 1);
+        C.fine("dark min(1,2)" + "+min(1,2)-max((3),4)".repeat(9) + ";", 1);
         C.fault("dark (((((((min(1,2))))))));", 5, 15);
         C.fault("content [not [not [not [[all]]]]];", 5, 24);
         C.fault("content [not [not [not [not all]]]];", 5, 24);
@@ -231,6 +232,9 @@ public final class TextTest {
         C.due("bears stay", x.bears(1), 5);
         C.due("value stays", x.value(0), 995L * 8);
         C.due("undo stays", x.undo(), true);
+        x.say(0);
+        Checks.falls(x, 0, 5, 0, 0, 9, 1);
+        C.due("falls", x.bears(0), 4);
         // A fine one makes all as at first, but the seed and the latest image.
         C.due("fine", Checks.shore(x, A), 1);
         int[] then = {1, 0, 0, 0, 0, 0, 0, 99, 0, 100, 0, 0, 0, 77};
@@ -274,6 +278,8 @@ public final class TextTest {
         C.due("no calm", x.has(10), 0);
         C.due("no content", x.has(8), 0);
         C.due("not brief", x.thing(0, 2), 0);
+        C.due("once more", Checks.shore(x, "thing b worth 8 rhymes 1;wish w words 1 gives b;"), 2);
+        C.due("not brief either", x.thing(0, 2), 0);
         C.due("ladder", x.ladder(1), 1);
         C.due("rivals", x.rivals(1, -1), 8);
     }
