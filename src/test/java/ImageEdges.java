@@ -18,6 +18,7 @@ final class ImageEdges {
         edges.octet();
         edges.on();
         edges.status();
+        edges.calls();
     }
 
     private void octets(WishSea x, int... want) {
@@ -381,13 +382,6 @@ final class ImageEdges {
             Checks.on(x, ImageTest.bytes(0, 0, 0, 0));
             refusals(x, 0, 0, 1, 0, 0, 0);
         });
-        e.edge("the 512th call: 511 refused ones", () -> {
-            WishSea x = new WishSea();
-            for (int i = 0; i < 511; i++) {
-                x.say(0);
-            }
-            e.due("status(2)", x.status(2), 511);
-        });
         e.says("NONE for others.");
         e.edge("-1", () -> e.due("status", new WishSea().status(-1), -1));
         e.edge("6", () -> e.due("status", new WishSea().status(6), -1));
@@ -395,6 +389,38 @@ final class ImageEdges {
             for (int far : Shores.FAR) {
                 e.due("status " + far, new WishSea().status(far), -1);
             }
+        });
+    }
+
+    private void calls() {
+        e.under("## What it is", "## The public face");
+        e.says("An object is used for at most 512 calls after it has been made; what later calls answer is free.");
+        e.edge("no call", () -> e.due("has(13)", new WishSea().has(13), 1));
+        e.edge("511 refused ones, and the 512th", () -> {
+            WishSea x = new WishSea();
+            for (int i = 0; i < 511; i++) {
+                x.say(0);
+            }
+            e.due("status(2)", x.status(2), 511);
+        });
+        e.edge("511 DAYS, and the 512th call undoes one", () -> {
+            WishSea x = new WishSea();
+            for (int i = 0; i < 510; i++) {
+                x.night();
+            }
+            e.due("night", x.night(), 511);
+            e.due("undo", x.undo(), true);
+        });
+        e.edge("249 times 40 DAYS, and 39", () -> {
+            WishSea x = Checks.with("");
+            for (int i = 0; i < 249; i++) {
+                e.due("days " + i, x.days(40), 0);
+            }
+            e.due("beyond", x.days(40), -1);
+            e.due("DAY", x.has(6), 9960);
+            e.due("to the last DAY", x.days(39), 0);
+            e.due("undo", x.undo(), true);
+            e.due("DAY", x.has(6), 9960);
         });
     }
 

@@ -43,7 +43,24 @@ final class NeighboursEdges {
         e.edge("DAY 0", () -> rivals(Shores.at(A + W + "room 1-day;", 7, 0, 0, 0), 1, 5, 0));
         e.edge("said counts both", () -> rivals(Checks.with(FOUR + "room 2-said;"), 3, 0, 0, 0, 20));
         e.edge("each by his own THINGS", () -> rivals(Checks.with(FOUR + "content had=1;"), 4, 0, 0, 0, 20, 20));
-        e.edge("just what the fish bears", () -> rivals(Checks.with(A + W + "dark 20;bears 40;"), 2, 0, 0, 0));
+        e.edge("DAY 0 for ROOM, and no less", () -> rivals(Checks.with(A + W + "room 1+day;"), 1, 5, 0));
+        e.edge("DAY 0 for dark", () -> rivals(Checks.with(A + W + "dark day*99;bears 1;"), 1, 5, 0));
+        e.edge("DAY 0 for dark, and no less", () -> rivals(Checks.with(A + W + "dark 0-day*99;bears 1;"), 1, 5, 0));
+        e.edge("said counts both for dark", () -> {
+            // The third WISH of both makes the sea 0 + 40 + 80: ONE TOO MANY, which is no worse than none.
+            rivals(Checks.with(FOUR + "dark said*40;bears 119;"), 2, 0, 0, 0);
+            rivals(Checks.with(FOUR + "dark said*40;bears 119;"), 3, 0, 0, 0, 1);
+            rivals(Checks.with(FOUR + "dark said*40;bears 120;"), 3, 1, 0, 0, 1);
+        });
+        e.edge("dark by his own THINGS, for each WISH alike", () -> {
+            // Each one's first WISH isn't dark; the second one of the first fisher makes the sea 99.
+            rivals(Checks.with(FOUR + "dark had*99;bears 98;"), 3, 0, 0, 0, 1);
+            rivals(Checks.with(FOUR + "dark had*99;bears 99;"), 3, 1, 0, 0, 1);
+        });
+        e.edge("just what the fish bears", () -> rivals(Checks.with(A + W + "dark 40;bears 40;"), 1, 5, 0));
+        e.edge("just what the fish bears by both", () -> rivals(Checks.with(A + W + "dark 20;bears 40;"), 2, 0, 0, 0));
+        e.edge("just what the fish bears: it goes on", () -> rivals(Checks.with("thing a worth 5 rhymes 1;thing b worth 1 rhymes 1;"
+                + "wish wa words 9 gives a;wish wb words 0 gives b;dark words;room 10-sea;bears 9;"), 2, 4, 0, 1));
         e.edge("ONE TOO MANY by one", () -> {
             // The second one's WISH makes both as at first.
             rivals(Checks.with(A + W + "dark 20;bears 39;"), 2, 0, 0, 0);

@@ -409,6 +409,11 @@ final class RowsEdges {
                 e.due("went " + what, Checks.with(A + W).went(what), -1);
             }
         });
+        e.edge("of a new object", () -> {
+            for (int what = 0; what < 5; what++) {
+                e.due("went " + what, new WishSea().went(what), -1);
+            }
+        });
         e.edge("ahead of any of this SHORE", () -> {
             WishSea x = Checks.with(A + W);
             Checks.row(x, 0);
@@ -467,6 +472,16 @@ final class RowsEdges {
             Checks.shore(x, A);
             e.due("SHORE", x.ladder(1), 0);
         });
+        e.edge("it follows the THINGS alone", () -> follows(0, 0, 0, 6));
+        e.edge("it follows the sea alone", () -> follows(0, 0, 100, 0));
+        e.edge("it follows what was said alone", () -> follows(0, 2, 0, 0));
+        e.edge("it follows the DAY alone", () -> follows(2, 0, 0, 0));
+        e.edge("it follows the SHORE alone", () -> {
+            WishSea x = Checks.with(THREE);
+            e.due("first", x.ladder(1), 3);
+            Checks.shore(x, Shores.things(3) + Shores.wishes(2, 3));
+            e.due("then", x.ladder(1), 2);
+        });
         e.says("NONE for others.");
         e.edge("-1", () -> e.due("ladder", Checks.with(TEN).ladder(-1), -1));
         e.edge("9", () -> e.due("ladder", Checks.with(TEN).ladder(9), -1));
@@ -475,6 +490,16 @@ final class RowsEdges {
                 e.due("ladder " + far, Checks.with(A).ladder(far), -1);
             }
         });
+    }
+
+    /** At first there are three sets by one WISH; at this state fewer. */
+    private void follows(int day, int said, int sea, int things) {
+        WishSea x = Checks.with(THREE + "dark 1;room 2-said-day;");
+        e.due("first", x.ladder(1), 3);
+        Checks.on(x, ImageTest.bytes(day, said, sea, things));
+        e.due("then", x.ladder(1), things == 6 ? 1 : 0);
+        Checks.on(x, ImageTest.bytes(0, 0, 0, 0));
+        e.due("at first again", x.ladder(1), 3);
     }
 
     private void fewest() {

@@ -148,6 +148,8 @@ final class StopEdges {
             Checks.stop(x, 0);
             values(x, 0, (999 - 902 + 1) * 10);
         });
+        e.edge("each WISH as dark as it is: the darkest first", () -> darkOnes(2, 1, 0, 0, 910 * 7, 900 * 37, 899 * 47));
+        e.edge("each WISH as dark as it is: the darkest last", () -> darkOnes(0, 1, 2, 0, 9990, 989 * 40, 899 * 47));
         e.edge("a WISH that isn't dark, in a dark sea", () -> {
             WishSea x = Shores.at(ABC + "wish w words 0 gives a;bears 999;", 0, 0, 900, 0);
             Checks.stop(x, 0);
@@ -158,6 +160,12 @@ final class StopEdges {
             Checks.stop(x);
             values(x, 999L * 990);
         });
+    }
+
+    /** wa darkens the sea by 1, wb by 10, wc by 90. */
+    private void darkOnes(int first, int second, int third, long... want) {
+        values(stopped(ABC + "wish wa words 0 gives a;wish wb words 1 gives b;wish wc words 9 gives c;dark max(1,words*10);",
+                3, first, second, third), want);
     }
 
     private void greatest() {
@@ -212,6 +220,8 @@ final class StopEdges {
             Checks.falls(x, 0, 50, 0);
             Checks.falls(x, 0, 60, 1);
             bears(x, 59, 1, 59);
+            Checks.falls(x, 0, 50, 0);
+            bears(x, 950, 50, 999);
         });
         e.says("NONE, refused (5), all staying, when it is none such.");
         e.edge("no rows", () -> refusedFalls());
@@ -337,6 +347,7 @@ final class StopEdges {
         });
         e.says("NONE when there is none such.");
         e.edge("ahead of any", () -> e.due("value", Checks.with(ENDLESS).value(0), -1));
+        e.edge("of a new object", () -> e.due("value", new WishSea().value(0), -1));
         e.edge("k 1 of none", () -> e.due("value", stopped(ENDLESS, 0).value(1), -1));
         e.edge("k 2 of one", () -> e.due("value", stopped(ENDLESS, 1, 1).value(2), -1));
         e.edge("k 13 of twelve", () -> e.due("value", stopped(ENDLESS, 1, 1, 0, 1, 0, 1, 0, 1, 0, 1, 0, 1, 0).value(13), -1));

@@ -209,6 +209,16 @@ final class TextEdges {
     private void facts() {
         e.says("FACT: not FACT; [ TEST ] ; all; SUM SIGN SUM, SIGN < or > or = .");
         e.edge("not of none", () -> e.fault(1, "content not^;"));
+        e.edge("not of what holds", () -> e.due("content", content("not 1=1"), 0));
+        e.edge("not of what doesn't hold", () -> e.due("content", content("not 1=2"), 1));
+        e.edge("not of <, of >, of all", () -> e.due("content", content("not 1<2 or not 2>1 or not not all"), 0));
+        e.edge("7 not of what holds", () -> e.due("content", content("not not not not not not not 1=1"), 0));
+        e.edge("7 not of what doesn't hold", () -> e.due("content", content("not not not not not not not 1=2"), 1));
+        e.edge("not of the next FACT alone", () -> e.due("content", content("not 1=2 and 1=2"), 0));
+        e.edge("not behind a FACT", () -> e.due("content", content("1=1 and not 1=2"), 1));
+        e.edge("not of [ ]", () -> e.due("content", content("not [1=1 and 1=2]"), 1));
+        e.edge("7 [ ]", () -> e.due("content", content("[[[[[[[1=1]]]]]]]"), 1));
+        e.edge("[ ] ahead of and", () -> e.due("content", content("[1=1 or 1=1] and 1=2"), 0));
         e.edge("[ ] of none", () -> e.fault(1, "content [^];"));
         e.edge("[ that isn't closed", () -> e.fault(1, "content [1=1^;"));
         e.edge("] that wasn't open", () -> e.fault(1, "content 1=1^];"));
@@ -252,6 +262,10 @@ final class TextEdges {
         e.edge("min of one", () -> e.fault(1, "room min(1^);"));
         e.edge("min of three", () -> e.fault(1, "room min(1,2^,3);"));
         e.edge("min without (", () -> e.fault(1, "room min ^1,2);"));
+        e.edge("min alone", () -> e.fault(1, "room min^;"));
+        e.edge("max alone in a SUM", () -> e.fault(1, "room 1+max^+1;"));
+        e.edge("min alone in a FACT", () -> e.fault(1, "content min^<1;"));
+        e.edge("min with [", () -> e.fault(1, "room min^[1,2];"));
         e.edge("max without )", () -> e.fault(1, "room max(1,2^;"));
         e.edge("min of like ones", () -> e.due("room", Shores.room("min(7,7)"), 7));
         e.edge("min, the first one less", () -> e.due("room", Shores.room("min(6,7)"), 6));
@@ -896,6 +910,29 @@ final class TextEdges {
             WishSea x = used();
             e.due("shore", x.shore(), 0);
             e.due("THINGS and WISHES", x.has(0) + x.has(1) + x.has(2) + x.has(3), 0);
+        });
+        e.edge("nothing of any SHORE before is left", () -> {
+            WishSea x = new WishSea();
+            for (int i = 0; i < 4; i++) {
+                Checks.shore(x, "thing a worth 9 rhymes 9 brief;first a;wish w words 9 gives a;dark 9;room 9;content 1=1;bears 9;calm 9;");
+                Checks.shore(x, i % 2 == 0 ? A + W : "calm");
+                e.due("shore", Checks.shore(x, A + W), 2);
+                int[] has = {1, 1, 0, 0, 0, 0, 0, 99, 0, 100, 0};
+                for (int what = 0; what < has.length; what++) {
+                    e.due("has " + what, x.has(what), has[what]);
+                }
+                e.due("brief", x.thing(0, 2), 0);
+                e.due("rhyme", x.thing(0, 1), 1);
+                e.due("dark", x.wish(0, 6), 0);
+                e.due("words", x.wish(0, 3), 1);
+            }
+        });
+        e.edge("a full tape's SUM, over and over", () -> {
+            WishSea x = new WishSea();
+            for (int i = 0; i < 8; i++) {
+                e.due("shore", Checks.shore(x, "room 7" + "+1-1".repeat(398) + ";"), 1);
+                e.due("room", x.has(7), 7);
+            }
         });
         e.edge("refusals stay", () -> {
             WishSea x = new WishSea();
