@@ -980,7 +980,10 @@ public final class WishSea {
         }
 
         private static int within(long result) {
-            return (int) Math.max(-LIMIT, Math.min(LIMIT, result));
+            if (result > LIMIT) {
+                return LIMIT;
+            }
+            return result < -LIMIT ? -LIMIT : (int) result;
         }
 
         static boolean isPart(int token) {

@@ -25,6 +25,8 @@ public final class ActsTest {
     }
 
     private static void saying() {
+        C.says("A WISH is said: the sea then (0 when it was ONE TOO MANY); NONE, refused (2), when it MAY not be, or "
+                + "there is none such.");
         WishSea x = Checks.with(TEXT);
         C.due("uses none", x.say(0), -1);
         C.due("none such", x.say(3), -1);
@@ -39,16 +41,21 @@ public final class ActsTest {
         C.due("say 2", x.say(2), 90);
         has("c", x, 5, 90, 3, 0);
         // Darkness is reckoned as all is ahead of the WISH: what it gives and uses doesn't count yet.
+        C.says("the sea is darker by the SUM of dark, 0 .. 99 (0 without; as all is ahead of it); what it uses up is "
+                + "gone, what it gives one has; one more is said.");
         WishSea y = Checks.with("thing a worth 9 rhymes 3;thing b worth 5 rhymes 1;first b;wish w words 2 gives a uses b;"
                 + "dark worth+had*10+said*50;");
         C.due("dark ahead", y.say(0), 15);
         C.due("worth behind", y.has(3), 9);
+        C.says("A WISH MAY be said, if (in this order; the first that is not so tells why):");
         WishSea z = Checks.with("thing a worth 9 rhymes 3;wish w words 2 gives a needs a;wish v words 6 gives a;room 8;");
         C.due("needs what it gives", z.wish(0, 5), 1);
         C.due("too long", z.say(1), -1);
     }
 
     private static void oneTooMany() {
+        C.says("If the sea is then above what the fish bears, it is ONE TOO MANY: all is as at first, but the DAY; the "
+                + "sea is 0, none was said.");
         WishSea x = Checks.with(TEXT + "bears 60;first c;");
         x.night();
         x.say(1);
@@ -56,15 +63,20 @@ public final class ActsTest {
         has("60", x, 5, 60, 2, 1);
         C.due("one too many", x.say(1), 0);
         has("all as at first but the DAY", x, 4, 0, 0, 1);
+        C.says("KEPT is each WISH said: DAY, WISH, the sea behind it (0 of one that was ONE TOO MANY), 1 if it was that, "
+                + "else 0 (the last 50 are told).");
         C.due("kept", x.has(11), 3);
         C.due("kept sea", x.kept(2, 2), 0);
         C.due("kept flag", x.kept(2, 3), 1);
         C.due("kept flag", x.kept(1, 3), 0);
+        C.says("The latest ACT is undone: all that ACTS change is as it was ahead of it");
         C.due("undo", x.undo(), true);
         has("undone", x, 5, 60, 2, 1);
     }
 
     private static void nights() {
+        C.says("A DAY ends: brief THINGS are gone, the sea is lighter by calm (0 at least), none was said, DAY is one "
+                + "more (9999 at most).");
         WishSea x = Checks.with(TEXT);
         x.say(1);
         x.say(2);
@@ -78,6 +90,7 @@ public final class ActsTest {
         C.due("brief at first", y.has(2), 1);
         y.night();
         C.due("gone then", y.has(2), 0);
+        C.says("A DAY ends: the DAY then; NONE, refused (3), in DAY 9999.");
         // 9998 by an image: 39, 14.
         C.due("image", Checks.on(y, ImageTest.bytes(9998, 0, 0, 0)), true);
         C.due("last night", y.night(), 9999);
@@ -87,10 +100,15 @@ public final class ActsTest {
     }
 
     private static void daysBySeed() {
+        C.says("A DAY by the seed: so often as a DRAW of 4 tells: one of the WISHES that MAY be said, by a DRAW of as "
+                + "many as these are, by numbers (none, no DRAW, when there are none); then the DAY ends.");
         WishSea x = Checks.with(TEXT);
         C.due("days 6", x.days(6), 5);
         has("days 6", x, 4, 20, 0, 6);
+        C.says("A DRAW of m: x (the seed) becomes (1103515245 x + 12345) mod 2 to the 31; floor(x / 64) mod m.");
         C.due("seed", x.has(13), 180171308);
+        C.says("KEPT is each WISH said: DAY, WISH, the sea behind it (0 of one that was ONE TOO MANY), 1 if it was that, "
+                + "else 0");
         int[][] kept = {{0, 2, 30, 0}, {0, 1, 60, 0}, {3, 1, 75, 0}, {3, 0, 0, 1}, {4, 2, 30, 0}};
         C.due("kept", x.has(11), 5);
         for (int k = 0; k < 5; k++) {
@@ -98,11 +116,14 @@ public final class ActsTest {
                 C.due("kept " + k + " " + what, x.kept(k, what), kept[k][what]);
             }
         }
+        C.says("n DAYS (1 .. 40) by the seed, one ACT: how many WISHES were said;");
         C.due("one ACT", x.has(12), 1);
+        C.says("The latest ACT is undone: all that ACTS change is as it was ahead of it (but the seed): true;");
         C.due("undo", x.undo(), true);
         has("undone", x, 0, 0, 0, 0);
         C.due("nothing kept", x.has(11), 0);
         C.due("the seed is not undone", x.has(13), 180171308);
+        C.says("(none, no DRAW, when there are none);");
         WishSea y = new WishSea();
         y.seed(5);
         C.due("none can be said", y.days(3), 0);
@@ -110,6 +131,8 @@ public final class ActsTest {
     }
 
     private static void daysThatCanNotBe() {
+        C.says("n DAYS (1 .. 40) by the seed, one ACT: how many WISHES were said; NONE, refused (3), when n can't be, or "
+                + "beyond 9999.");
         WishSea x = Checks.with(TEXT);
         C.due("days 0", x.days(0), -1);
         C.due("days -1", x.days(-1), -1);
@@ -133,11 +156,14 @@ public final class ActsTest {
     }
 
     private static void undoing() {
+        C.says("The latest ACT is undone: all that ACTS change is as it was ahead of it (but the seed): true; false, "
+                + "refused (4), when none can be.");
         WishSea x = Checks.with(TEXT);
         C.due("none", x.undo(), false);
         C.due("status(4)", x.status(4), 1);
         x.say(0);
         C.due("a refused one is no ACT", x.has(12), 0);
+        C.says("The last 20 ACTS can be undone.");
         for (int i = 0; i < 19; i++) {
             x.night();
         }
@@ -156,6 +182,7 @@ public final class ActsTest {
         C.due("no more", x.undo(), false);
         C.due("status(4)", x.status(4), 2);
         C.due("kept none", x.has(11), 0);
+        C.says("ACTS: a WISH is said; a DAY ends; DAYS by the seed.");
         // Rows, seeds, falls and images are no ACTS.
         x.seed(4);
         Checks.row(x, 1);
@@ -166,6 +193,7 @@ public final class ActsTest {
 
     private static void undoingKept() {
         // 120 WISHES are KEPT in 40 DAYS at most: what dropped out of the last 50 comes back.
+        C.says("all that ACTS change is as it was ahead of it (but the seed)");
         WishSea x = Checks.with("thing a worth 1 rhymes 1 brief;thing b worth 1 rhymes 1 brief;thing c worth 1 rhymes 1 brief;"
                 + "wish wa words 0 gives a;wish wb words 0 gives b;wish wc words 0 gives c;");
         x.say(2);
@@ -199,6 +227,7 @@ public final class ActsTest {
     }
 
     private static void seeds() {
+        C.says("The seed: true; false, refused (5), when it is below 0.");
         WishSea x = new WishSea();
         C.due("seed 0", x.seed(0), true);
         C.due("seed 0", x.has(13), 0);
@@ -210,6 +239,7 @@ public final class ActsTest {
     }
 
     private static void keeping() {
+        C.says("(the last 50 are told)");
         WishSea x = Checks.with("thing a worth 1 rhymes 1 brief;wish w words 0 gives a;dark day%7;bears 5;calm 2;");
         for (int day = 0; day < 53; day++) {
             x.say(0);
@@ -219,6 +249,8 @@ public final class ActsTest {
         C.due("times", x.wish(0, 7), 50);
         C.due("oldest DAY", x.kept(0, 0), 3);
         C.due("latest DAY", x.kept(49, 0), 52);
+        C.says("Of the k-th WISH that is told as KEPT, from the oldest on: 0 DAY, 1 WISH, 2 the sea, 3 whether it was ONE "
+                + "TOO MANY. NONE when there is none such, or for others.");
         int sea = 0;
         for (int day = 0; day < 53; day++) {
             sea += day % 7;

@@ -1,11 +1,42 @@
-/** Counts what is not due, and puts texts and bytes on a tape. */
+/** Counts what is not due, each beside the sentence of the document that asks for it; puts texts and bytes on a tape. */
 final class Checks {
     private int wrong = 0;
+    private int dues = 1;
+    private String sentence = "";
+
+    /** What is due from now on is what this sentence of ../shared/DOC.md asks for. */
+    void says(String words) {
+        beginSentence(words);
+        if (!Document.TEXT.contains(words)) {
+            blame("not in the document");
+        }
+    }
+
+    /** Likewise of another page: a rule of ../shared/LANGUAGE.md, README.md. */
+    void about(String page) {
+        beginSentence(page);
+    }
+
+    private void beginSentence(String words) {
+        if (dues == 0) {
+            blame("nothing is looked at");
+        }
+        sentence = words;
+        dues = 0;
+    }
+
+    private void blame(String what) {
+        wrong++;
+        System.out.println("\"" + sentence + "\": " + what);
+    }
 
     void due(String what, long got, long want) {
+        dues++;
+        if (sentence.isEmpty()) {
+            blame("no sentence asks for " + what);
+        }
         if (got != want) {
-            wrong++;
-            System.out.println(what + " answered " + got + ", due is " + want);
+            blame(what + " answered " + got + ", due is " + want);
         }
     }
 
@@ -14,6 +45,7 @@ final class Checks {
     }
 
     void end() {
+        beginSentence("the end");
         System.out.println(wrong == 0 ? "all answers are as due" : wrong + " answers are not as due");
         if (wrong != 0) {
             System.exit(1);

@@ -1,5 +1,3 @@
-import java.nio.file.Files;
-import java.nio.file.Path;
 import java.util.ArrayList;
 import java.util.HashSet;
 import java.util.List;
@@ -15,7 +13,7 @@ final class Edges {
         void run();
     }
 
-    private final String document;
+    private final String document = Document.TEXT;
     private final boolean[] covered;
     private final Set<String> names = new HashSet<>();
     private int from;
@@ -27,8 +25,7 @@ final class Edges {
     private int edges;
     private int wrong;
 
-    Edges() throws java.io.IOException {
-        document = Files.readString(Path.of("../shared/DOC.md")).replace("```text", " ").replace("```", " ").replaceAll("\\s+", " ");
+    Edges() {
         covered = new boolean[document.length()];
     }
 

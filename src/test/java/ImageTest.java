@@ -27,14 +27,19 @@ public final class ImageTest {
     }
 
     private static void images() {
+        C.says("Byte k of the latest image(); NONE when there is none such.");
         WishSea x = new WishSea();
         C.due("ahead of any", x.octet(0), -1);
+        C.says("AN IMAGE is written: how many bytes.");
         C.due("image", x.image(), 9);
         octets("new", x, 0, 0, 0, 0, 0, 0, 0, 0, 167);
+        C.says("Byte k of the latest image(); NONE when there is none such.");
         C.due("octet 9", x.octet(9), -1);
         C.due("octet -1", x.octet(-1), -1);
         Checks.shore(x, TEXT);
         octets("stays", x, 0, 0, 0, 0, 0, 0, 0, 0, 167);
+        C.says("AN IMAGE: DAY (two bytes, the higher first), how many were said this DAY (two bytes), the sea (two "
+                + "bytes), THINGS as bits (two bytes); last a byte: all ahead from 97 on, c = (5 c + it) mod 251.");
         Checks.on(x, bytes(9999, 9998, 258, 1));
         x.image();
         octets("great ones", x, 39, 15, 39, 14, 1, 2, 0, 1, bytes(9999, 9998, 258, 1)[8]);
@@ -50,11 +55,14 @@ public final class ImageTest {
         WishSea y = Checks.with(ten.toString());
         y.image();
         octets("ten THINGS", y, 0, 0, 0, 0, 0, 0, 3, 255, bytes(0, 0, 0, 1023)[8]);
+        C.says("THINGS that there are");
         C.due("ten THINGS", Checks.on(y, bytes(0, 0, 0, 1023)), true);
         C.due("eleven", Checks.on(y, bytes(0, 0, 0, 1024)), false);
     }
 
     private static void goingOn() {
+        C.says("The tape (it goes, refused or not) is AN IMAGE of this SHORE: true, all is as it tells, nothing is KEPT, "
+                + "no ACT can be undone;");
         WishSea x = Checks.with(TEXT);
         x.say(0);
         x.night();
@@ -68,8 +76,11 @@ public final class ImageTest {
         }
         C.due("no ACT", x.undo(), false);
         C.due("not KEPT", x.kept(0, 0), -1);
+        C.says("Of the latest row() of this SHORE:");
         C.due("went stays", x.went(3), 2);
+        C.says("BEARS by FALLS (all without):");
         C.due("bears stay", x.bears(1), 5);
+        C.says("The tape (it goes, refused or not) is AN IMAGE of this SHORE: true, all is as it tells,");
         C.due("the tape is gone", x.end(1), false);
         C.due("on", Checks.on(x, bytes(9999, 9999, 300, 7)), true);
         C.due("on", Checks.on(x, bytes(0, 0, 0, 0)), true);
@@ -79,6 +90,8 @@ public final class ImageTest {
     }
 
     private static void noImages() {
+        C.says("false, refused (5), all staying, if it is none such (DAY 9999 at most, 9999 said at most, a sea no more "
+                + "than the fish bears, THINGS that there are).");
         WishSea x = Checks.with(TEXT);
         x.say(0);
         C.due("DAY 10000", Checks.on(x, bytes(10000, 0, 0, 0)), false);
@@ -104,6 +117,8 @@ public final class ImageTest {
     }
 
     private static void refusals() {
+        C.says("How many were refused: 0 feed(), end(); 1 shore(); 2 say(); 3 night(), days(); 4 undo(); 5 seed(), row(), "
+                + "falls(), stop(), on(). NONE for others.");
         WishSea x = new WishSea();
         for (int what = 0; what < 6; what++) {
             C.due("status " + what, x.status(what), 0);

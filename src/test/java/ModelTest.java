@@ -17,6 +17,7 @@ public final class ModelTest {
         int runs = args.length > 0 ? Integer.parseInt(args[0]) : 400;
         int from = args.length > 1 ? Integer.parseInt(args[1]) : 0;
         int fine = 0;
+        CHECKS.says("Nothing is promised beyond the answers and state changes described above,");
         for (int number = from; number < from + runs; number++) {
             ModelTest test = new ModelTest(number);
             test.calls();

@@ -19,6 +19,8 @@ public final class NeighboursTest {
     }
 
     private static void turns() {
+        C.says("by turns, the first one ahead, n turns (4 at most): each turn a WISH that he MAY say by his own THINGS, "
+                + "or none;");
         WishSea x = Checks.with("thing a worth 5 rhymes 1;thing b worth 9 rhymes 1;thing c worth 9 rhymes 1;"
                 + "wish wa words 0 gives a;wish wb words 0 gives b;wish wc words 0 gives c;first a;");
         rivals("none", x, 0, 0);
@@ -26,10 +28,14 @@ public final class NeighboursTest {
         rivals("two", x, 2, 0, 1, 1);
         rivals("three", x, 3, 9, 1, 1, 2);
         rivals("four", x, 4, 0, 1, 1, 2, 2);
+        C.says("NEIGHBOURS: two fishers, each with the THINGS that are had at first, at one fish (a sea of 0, DAY 0; said "
+                + "counts both);");
         // Not from now on: as at first, whatever was said.
         x.say(1);
         x.night();
         rivals("as at first", x, 3, 9, 1, 1, 2);
+        C.says("Each wants his worth at the end less the other one's to be most (of like ones the first WISH, none behind "
+                + "all).");
         WishSea y = Checks.with("thing a worth 5 rhymes 1;thing b worth 0 rhymes 1;first a;wish wb words 0 gives b uses a;");
         rivals("none is better", y, 2, 0, 20, 20);
         WishSea z = Checks.with("thing b worth 0 rhymes 1;wish wb words 0 gives b;wish vb words 0 gives b;");
@@ -37,6 +43,7 @@ public final class NeighboursTest {
     }
 
     private static void oneTooMany() {
+        C.says("if it is ONE TOO MANY, both are as at first, and it is over.");
         // The second one is behind, and a second WISH is one too many: he says it, and both are as at first.
         WishSea x = Checks.with("thing a worth 5 rhymes 1;thing b worth 1 rhymes 1;wish wb words 0 gives a uses b;first b;"
                 + "dark 40;bears 60;");
@@ -60,6 +67,7 @@ public final class NeighboursTest {
     }
 
     private static void atOneFish() {
+        C.says("at one fish (a sea of 0, DAY 0; said counts both);");
         // Said counts both: from the second WISH on all are as dark as the sea bears no more.
         WishSea x = Checks.with("thing a worth 5 rhymes 1;wish wa words 0 gives a;dark said*99;bears 90;");
         rivals("two", x, 2, 0, 0, 0);
@@ -76,10 +84,12 @@ public final class NeighboursTest {
         C.due("DAY 1 has less room", v.has(7), 1);
         Checks.shore(v, "thing a worth 5 rhymes 1;wish wa words 0 gives a;content day=1;");
         rivals("DAY 0", v, 1, 5, 0);
+        C.says("each turn a WISH that he MAY say by his own THINGS, or none;");
         // CONTENT by his own THINGS.
         WishSea z = Checks.with("thing a worth 5 rhymes 1;thing b worth 5 rhymes 1;wish wa words 0 gives a;wish wb words 0 gives b;"
                 + "content worth>0;");
         rivals("content", z, 4, 0, 0, 0, 20, 20);
+        C.says("(a sea of 0, DAY 0; said counts both)");
         // A DAY of 0, and dark by his own THINGS, as they are ahead of the WISH.
         WishSea w = Checks.with("thing a worth 5 rhymes 1;thing b worth 6 rhymes 1;wish wa words 0 gives a;wish wb words 0 gives b;"
                 + "dark worth*10+day*99;bears 55;");
@@ -88,6 +98,8 @@ public final class NeighboursTest {
     }
 
     private static void othersAreNothing() {
+        C.says("NEIGHBOURS, n turns (0 .. 4): the first one's worth less the other one's (k NONE), what is said in turn k "
+                + "(0 and on; 20: none, or it is over). NOTHING for others.");
         WishSea x = Checks.with("thing a worth 5 rhymes 1;wish wa words 0 gives a;");
         int[][] others = {{-1, -1}, {5, -1}, {2, -2}, {2, 2}, {0, 0}, {4, 4}, {-1, 0}, {5, 0}, {2147483647, 0}, {1, 2147483647},
             {1, -2147483648}};
@@ -98,11 +110,14 @@ public final class NeighboursTest {
     }
 
     private static void before() {
+        C.says("BEFORE: sets of THINGS that one could have had ahead of a DAY's end so that one has what one has now "
+                + "behind it.");
         WishSea x = Checks.with("thing a worth 5 rhymes 1 brief;thing b worth 5 rhymes 1;thing c worth 5 rhymes 1 brief;first b;"
                 + "wish wc words 0 gives c;");
         C.due("sets", x.before(0), 4);
         C.due("least", x.before(1), 2);
         C.due("greatest", x.before(2), 7);
+        C.says("BEFORE: how many sets (what 0), the least (1; NONE without), the greatest (2; likewise). NONE for others.");
         C.due("before 3", x.before(3), -1);
         C.due("before -1", x.before(-1), -1);
         x.say(0);

@@ -23,6 +23,8 @@ public final class RowsTest {
     }
 
     private static void rows() {
+        C.says("A ROW of WISHES is gone through from now on (255: a DAY ends; 40 at most), as if they were said, up to "
+                + "the first one that MAY not be said, or is ONE TOO MANY, or its end.");
         WishSea x = Checks.with(TEXT);
         C.due("ahead of any", x.went(0), -1);
         C.due("row", Checks.row(x, 1, 0, 255, 2, 1), 4);
@@ -35,10 +37,13 @@ public final class RowsTest {
         went("empty", y, 0, 0, 0, 0, 0);
         y.say(1);
         y.say(2);
+        C.says("4 the greatest sea up to there (as it was ahead of the ROW, too).");
         C.due("nights", Checks.row(y, 255, 255), 2);
         went("the sea as it was ahead, too", y, 0, 4, 50, 2, 60);
+        C.says("NONE ahead of any, or for others.");
         C.due("went 5", y.went(5), -1);
         C.due("went -1", y.went(-1), -1);
+        C.says("(255: a DAY ends; 40 at most)");
         int[] forty = new int[40];
         java.util.Arrays.fill(forty, 255);
         C.due("40", Checks.row(y, forty), 40);
@@ -46,6 +51,9 @@ public final class RowsTest {
     }
 
     private static void rowsThatEnd() {
+        C.says("Of the latest row() of this SHORE: 0 why it ended (0 its end, 1 .. 5 as a WISH that MAY not be said, 6 "
+                + "ONE TOO MANY, 7 a DAY beyond 9999), 1 THINGS had then as bits, 2 the sea, 3 the DAY (of each ahead of "
+                + "what ended it), 4 the greatest sea up to there (as it was ahead of the ROW, too).");
         WishSea x = Checks.with(TEXT + "bears 60;");
         C.due("uses up what is none", Checks.row(x, 2, 0, 1), 1);
         went("2", x, 2, 4, 30, 0, 30);
@@ -67,6 +75,8 @@ public final class RowsTest {
     }
 
     private static void rowsThatAreNone() {
+        C.says("The tape (it goes, refused or not) is a ROW, a byte each: how many are gone through (those that end it "
+                + "not counted); NONE, refused (5), when there are more than 40, or one is none such.");
         WishSea x = Checks.with(TEXT);
         Checks.row(x, 1);
         C.due("none such", Checks.row(x, 1, 3), -1);
@@ -76,6 +86,7 @@ public final class RowsTest {
         went("stays", x, 0, 2, 30, 0, 30);
         C.due("the tape is gone", Checks.row(x), 0);
         C.due("40 can be", Checks.row(x, new int[40]), 0);
+        C.says("Of the latest row() of this SHORE:");
         Checks.row(x, 1);
         Checks.shore(x, TEXT);
         C.due("of this SHORE", x.went(0), -1);
@@ -114,9 +125,14 @@ public final class RowsTest {
     }
 
     private static void ladders() {
+        C.says("THE LADDER: sets of THINGS that one can have within this DAY, by how many WISHES (8 at most): by 0 what "
+                + "one has now; by one more, from each such set, each WISH that MAY be said then (and is not ONE TOO "
+                + "MANY):");
         WishSea x = Checks.with(TEXT);
         // {} ; {b} {c} ; {a} {b,c} ; {a,b} {a,c} (90) ; four of them would be one too many.
         ladder(x, 1, 2, 2, 2);
+        C.says("FEWEST for THINGS as bits: WISHES (what 0), the sea (1), the set (2), the k-th WISH (10 and k). NONE when "
+                + "there is none such, or for others.");
         fewest(x, 0, 0, 0, 0);
         fewest(x, 1, 2, 60, 1, 1, 0);
         fewest(x, 3, 3, 90, 3, 1, 0, 1);
@@ -130,6 +146,8 @@ public final class RowsTest {
         C.due("what -1", x.fewest(0, -1), -1);
         C.due("what 9", x.fewest(1, 9), -1);
         C.due("what greatest", x.fewest(1, 2147483647), -1);
+        C.says("MOST by n WISHES (0 .. 8) or fewer: worth (what 0), WISHES (1), the sea (2), the set (3). NONE when n "
+                + "can't be, or for others.");
         most(x, 0, 0, 0, 0, 0);
         most(x, 1, 4, 1, 30, 4);
         most(x, 2, 4, 1, 30, 4);
@@ -139,11 +157,15 @@ public final class RowsTest {
         most(x, -1, -1, -1, -1, -1);
         C.due("most what 4", x.most(8, 4), -1);
         C.due("most what -1", x.most(8, -1), -1);
+        C.says("ENDS: WISHES (what 0), the sea (1), the set (2). NONE when one is never CONTENT, or for others.");
         ends(x);
+        C.says("THE LADDER: sets of THINGS that one can have within this DAY,");
         C.due("nothing is said", x.has(4) + x.has(11) + x.has(12), 0);
     }
 
     private static void likeOnes() {
+        C.says("of all that lead to one set by as many WISHES the one with the least sea counts alone; of like ones that "
+                + "from the least set (as bits), then the least WISH.");
         // To {c,d}: by wd then wc, or wc then wd; as dark: the one from the least set, {c}, counts.
         WishSea x = Checks.with("thing a worth 0 rhymes 1;thing b worth 0 rhymes 1;thing c worth 5 rhymes 1;thing d worth 5 rhymes 1;"
                 + "wish wd words 1 gives d;wish vd words 1 gives d;wish wc words 1 gives c;wish vc words 0 gives c;dark words;");
@@ -151,22 +173,32 @@ public final class RowsTest {
         fewest(x, 4, 1, 0, 4, 3);
         fewest(x, 8, 1, 1, 8, 0);
         fewest(x, 12, 2, 1, 12, 3, 0);
+        C.says("MOST by n WISHES or fewer: the set with the most worth of THINGS that are not brief; of like ones the "
+                + "fewest WISHES, the least sea, the least set.");
         most(x, 1, 5, 1, 0, 4);
+        C.says("of like ones that from the least set (as bits), then the least WISH.");
         // As dark both ways: from the least set.
         WishSea y = Checks.with("thing c worth 5 rhymes 1;thing d worth 5 rhymes 1;"
                 + "wish wd words 1 gives d;wish wc words 1 gives c;dark words;");
         fewest(y, 3, 2, 2, 3, 1, 0);
         fewest(y, 0, 0, 0, 0);
+        C.says("of like ones the fewest WISHES, the least sea, the least set.");
         most(y, 1, 5, 1, 1, 1);
+        C.says("of all that lead to one set by as many WISHES the one with the least sea counts alone;");
         // Less sea is ahead of the least set: by d the sea is less.
         WishSea z = Checks.with("thing c worth 5 rhymes 1;thing d worth 5 rhymes 1;thing e worth 0 rhymes 1;"
                 + "wish wd words 1 gives d;wish wc words 3 gives c;wish we words 0 gives e;dark words*(2-said);");
         fewest(z, 3, 2, 2 + 3, 3, 0, 1);
+        C.says("of like ones the fewest WISHES, the least sea, the least set.");
         most(z, 1, 5, 1, 2, 2);
+        C.says("FEWEST for some THINGS: the fewest WISHES by which there is a set with all of these; of like ones the "
+                + "least sea, then the least set.");
         fewest(z, 7, 3, 1, 7, 2, 0, 1);
     }
 
     private static void fromNowOn() {
+        C.says("by 0 what one has now; by one more, from each such set, each WISH that MAY be said then (and is not ONE "
+                + "TOO MANY):");
         WishSea x = Checks.with(TEXT + "bears 90;room 9-said*4;");
         ladder(x, 1, 2, 2, 2);
         x.say(1);
@@ -197,6 +229,8 @@ public final class RowsTest {
     }
 
     private static void contentEnds() {
+        C.says("ENDS: the fewest WISHES by which there is a set with which one is CONTENT, of like ones the least sea, "
+                + "then the least set.");
         WishSea x = Checks.with(TEXT + "content worth>3;");
         ends(x, 1, 30, 4);
         ladder(x, 1, 2, 2, 2);
@@ -216,6 +250,7 @@ public final class RowsTest {
         for (char c = 'a'; c < 'k'; c++) {
             text.append("thing ").append(c).append(" worth 1 rhymes 1;wish w").append(c).append(" words 0 gives ").append(c).append(";");
         }
+        C.says("by how many WISHES (8 at most)");
         WishSea x = Checks.with(text + "dark 1;");
         ladder(x, 1, 10, 45, 120, 210, 252, 210, 120, 45);
         fewest(x, 255, 8, 8, 255, 0, 1, 2, 3, 4, 5, 6, 7);

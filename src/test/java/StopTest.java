@@ -19,10 +19,14 @@ public final class StopTest {
     }
 
     private static void tellingFalls() {
+        C.says("BEARS by FALLS (all without): how many (what 0), the least (1; NONE without), the greatest (2; likewise). "
+                + "NONE for others.");
         WishSea x = new WishSea();
         bears("none", x, 999, 1, 999);
         C.due("bears 3", x.bears(3), -1);
         C.due("bears -1", x.bears(-1), -1);
+        C.says("FALLS of others are rows: how dark it was, whether it was one too many. BEARS are all numbers 1 .. 999 "
+                + "that the fish can bear by these (it was one too many just if it was darker than it bears).");
         C.due("falls", Checks.falls(x, 0, 40, 0), 1);
         bears("40 was not", x, 960, 40, 999);
         C.due("falls", Checks.falls(x, 1, 0, 1), 1);
@@ -46,6 +50,9 @@ public final class StopTest {
     }
 
     private static void noFalls() {
+        C.says("The tape (it goes, refused or not) tells FALLS: 1 to 20 rows of three bytes: how dark (two bytes, the "
+                + "higher first), 1 if it was one too many, else 0: how many rows; NONE, refused (5), all staying, when "
+                + "it is none such.");
         WishSea x = new WishSea();
         Checks.falls(x, 0, 40, 0);
         C.due("no rows", Checks.falls(x), -1);
@@ -74,14 +81,22 @@ public final class StopTest {
     }
 
     private static void stopping() {
+        C.says("Of the latest stop() of this SHORE (that was not refused): VALUE of k WISHES (0 .. as many as there "
+                + "were); NONE when there is none such.");
         WishSea x = Checks.with(TEXT);
         values("ahead of any", x);
+        C.says("VALUE of k WISHES: worth of what one has behind them for each of BEARS that is not below the sea behind "
+                + "each of the first k, of what is had at first for each other one, together, for each of BEARS.");
         C.due("stop", Checks.stop(x, 0, 1), 2);
         // Bears 40 .. 999 (960 of them) stand one, 80 .. 999 (920) stand two; the other ones have c alone.
         values("all", x, 999 * 7, 960 * 17 + 39 * 7, 920 * 37 + 79 * 7);
+        C.says("WHEN TO STOP: a ROW of WISHES without DAYS (12 at most), as if nothing were one too many; each of BEARS "
+                + "is as likely.");
         C.due("nothing is said", x.has(4) + x.has(11) + x.has(12), 0);
+        C.says("Of the latest stop() of this SHORE (that was not refused):");
         Checks.falls(x, 0, 70, 1);
         values("stays", x, 999 * 7, 960 * 17 + 39 * 7, 920 * 37 + 79 * 7);
+        C.says("The k with the greatest VALUE (0 and on; of like ones the least).");
         C.due("stop at one", Checks.stop(x, 0, 1), 1);
         values("up to 69", x, 69 * 7, 30 * 17 + 39 * 7, 69 * 7);
         Checks.falls(x, 0, 40, 1);
@@ -89,6 +104,8 @@ public final class StopTest {
         values("up to 39", x, 39 * 7, 39 * 7, 39 * 7);
         C.due("none", Checks.stop(x), 0);
         values("none", x, 39 * 7);
+        C.says("VALUE of k WISHES: worth of what one has behind them for each of BEARS that is not below the sea behind "
+                + "each of the first k,");
         // From now on: the sea is 40 already, but by no WISHES none of BEARS is too little.
         x.say(0);
         C.due("now", Checks.stop(x, 1), 0);
@@ -99,6 +116,7 @@ public final class StopTest {
     }
 
     private static void notStopping() {
+        C.says("NONE, refused (5), when there are more than 12, one is none such, one MAY not be said, or BEARS are none.");
         WishSea x = Checks.with(TEXT);
         Checks.stop(x, 0);
         C.due("MAY not", Checks.stop(x, 1), -1);
@@ -108,9 +126,11 @@ public final class StopTest {
         Checks.falls(x, 0, 9, 0, 0, 9, 1);
         C.due("BEARS are none", Checks.stop(x), -1);
         C.due("status(5)", x.status(5), 5);
+        C.says("Of the latest stop() of this SHORE (that was not refused):");
         values("stays", x, 999 * 7, 960 * 17 + 39 * 7);
         Checks.shore(x, TEXT);
         values("of this SHORE", x);
+        C.says("WHEN TO STOP: a ROW of WISHES without DAYS (12 at most), as if nothing were one too many;");
         StringBuilder text = new StringBuilder("thing z worth 0 rhymes 1;thing a worth 1 rhymes 1;thing b worth 2 rhymes 1;"
                 + "wish wa words 0 gives a;wish wz words 0 gives z uses a;wish wb words 0 gives b uses z;wish wc words 0 gives z uses b;");
         WishSea y = Checks.with(text + "dark 99;bears 5;");
@@ -119,10 +139,12 @@ public final class StopTest {
         // Behind the eleventh WISH the sea is 1089: none of BEARS stands that, and at first one has nothing.
         values("12", y, 0, 901, 0, 703 * 2, 0, 505 * 2, 0, 307 * 2, 0, 109 * 2, 0, 0, 0);
         C.due("13", Checks.stop(y, 0, 1, 2, 3, 2, 3, 2, 3, 2, 3, 2, 3, 2), -1);
+        C.says("worth of what one has behind them for each of BEARS that is not below the sea behind each of the first k,");
         WishSea u = Checks.with("thing a worth 1 rhymes 1;thing b worth 1 rhymes 1;thing c worth 1 rhymes 1;"
                 + "wish wa words 9 gives a;wish wb words 1 gives b;wish wc words 4 gives c;dark words*10;");
         C.due("each WISH as dark as it is", Checks.stop(u, 2, 0, 1), 3);
         values("each", u, 0, 960, 870 * 2, 860 * 3);
+        C.says("one MAY not be said,");
         WishSea z = Checks.with(TEXT + "content said=1;");
         C.due("content then", Checks.stop(z, 0, 1), -1);
         C.due("content then", Checks.stop(z, 0), 1);

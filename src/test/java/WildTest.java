@@ -5,6 +5,7 @@ public final class WildTest {
 
     public static void main(String[] args) {
         Checks checks = new Checks();
+        checks.says("An object is used for at most 512 calls after it has been made;");
         for (int run = 0; run < 400; run++) {
             WishSea one = new WishSea();
             WishSea two = new WishSea();
